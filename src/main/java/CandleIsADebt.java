@@ -16,8 +16,6 @@ public final class CandleIsADebt {
     private static final int NUMBERS = 12;
     private static final int HIGHEST_NUMBER = 99;
     private static final int NOT_OWED = -1;
-    /** The most steps between two cells: after so many evenings everybody is at his goal. */
-    private static final int FARTHEST = 2 * (SIDE - 1);
 
     private static final int CANDLE = 0;
     private static final int TWO = 1;
@@ -370,7 +368,7 @@ public final class CandleIsADebt {
     public int nearest(int walker) {
         if (!now.hasWalker(walker)) return refuse(NOBODY);
         int best = NONE;
-        int least = FARTHEST + 1;
+        int least = CELLS;
         for (int house = 0; house < now.houseCount; house++) {
             int off = steps(now.at[walker], now.cell[house]);
             if (now.owes(walker, house) && off < least) {
@@ -821,17 +819,20 @@ public final class CandleIsADebt {
 
         int placeBehind(int w, int n) {
             int place = at[w];
-            for (int k = 1; k <= n && k <= FARTHEST; k++) place = stepTowards(place, goal[w]);
+            for (int k = 1; k <= n && place != goal[w]; k++) place = stepTowards(place, goal[w]);
             return place;
         }
 
         /** The first of the next n evenings in which the walker would see the house, or NONE. */
         int firstSighting(int w, int h, int n) {
             int range = rangeOf(w, h);
+            if (range < 0) return NONE;
             int place = at[w];
-            for (int k = 1; k <= n && k <= FARTHEST; k++) {
+            for (int k = 1; k <= n; k++) {
                 place = stepTowards(place, goal[w]);
                 if (steps(place, cell[h]) <= range) return k;
+                // There he stays, and what he has not seen by then he never sees.
+                if (place == goal[w]) return NONE;
             }
             return NONE;
         }

@@ -89,6 +89,9 @@ public final class ChoicesTest {
         Due.tell(low, "o02;e01;");
         due.is("33 is", low.trade(0, 1), 1);
         due.is("a lodger of 3", low.trade(0, 2), 1);
+        // A lodger of 2 and 3: 26 and 5 are above 30, 25 and 5 are not; of an age more 25 and 6 would be.
+        CandleIsADebt aged = Due.village("h3100; h4000; h3000; w48480; w48480; o00; o01; o12; e03");
+        due.is("the age goes with it", aged.trade(0, 1), 1);
         due.is("alone there is nobody", Due.village("h3900; h0000; w48480; o00; o01").trade(0, 0), -9);
     }
 

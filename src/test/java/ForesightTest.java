@@ -111,6 +111,7 @@ public final class ForesightTest {
         due.is("out of it", x.way(3, 48, 0), 1);
         due.is("out of it, steps", x.way(3, 48, 1), 6);
         due.is("the first cell costs nothing", Due.village("h2024; w24252").way(0, 25, 0), 0);
+        due.is("the first cell of the map may cost as well", Due.village("h2000; w24252").way(0, 0, 0), 1);
         x.lights(0);
         due.is("dark: straight", x.way(0, 27, 1), 6);
         x.lights(0);
