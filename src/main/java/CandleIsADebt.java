@@ -1,6 +1,6 @@
 import java.util.Arrays;
 
-/** Lit houses, walkers who owe a visit to each light they see, and what comes of it (see DOC.md). */
+/** Lit houses, walkers who owe a visit to each light they see, and what comes of it (see ../shared/DOC.md). */
 public final class CandleIsADebt {
     private static final int SIDE = 7;
     private static final int CELLS = SIDE * SIDE;
