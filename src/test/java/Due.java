@@ -1,3 +1,8 @@
+import java.lang.reflect.Method;
+import java.lang.reflect.Modifier;
+import java.util.Arrays;
+import java.util.Comparator;
+
 /** Counts the answers of a test that are not the ones that are due. */
 final class Due {
     private int asked;
@@ -14,6 +19,16 @@ final class Due {
     void end() {
         System.out.println(asked + " answers, " + wrong + " not as due");
         if (wrong != 0 || asked == 0) System.exit(1);
+    }
+
+    /** Calls each static method of a test that takes nothing and is not private, so that none is forgotten in a list. */
+    static void all(Class<?> test) throws ReflectiveOperationException {
+        Method[] methods = test.getDeclaredMethods();
+        Arrays.sort(methods, Comparator.comparing(Method::getName));
+        for (Method m : methods) {
+            boolean called = Modifier.isStatic(m.getModifiers()) && !Modifier.isPrivate(m.getModifiers());
+            if (called && m.getParameterCount() == 0) m.invoke(null);
+        }
     }
 
     /** Feeds a text letter by letter and has it told. */
