@@ -181,8 +181,8 @@ final class Model {
 
     /** Tries by brute force whether a village can begin with a text: some ending must make it whole. */
     private static boolean canGoOn(String text) {
-        String rest = text.replaceAll("h\\d{4};|w\\d{5};|l\\d;|g\\d{3};|o\\d{2};|e\\d{2};", "#");
-        return rest.matches("#*(h\\d{0,4}|w\\d{0,5}|l\\d{0,1}|g\\d{0,3}|o\\d{0,2}|e\\d{0,2})?");
+        return text.matches("(h\\d{4};|w\\d{5};|l\\d;|g\\d{3};|o\\d{2};|e\\d{2};)*"
+            + "(h\\d{0,4}|w\\d{0,5}|l\\d{0,1}|g\\d{0,3}|o\\d{0,2}|e\\d{0,2})?");
     }
 
     int village() {

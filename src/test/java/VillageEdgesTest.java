@@ -101,6 +101,17 @@ public final class VillageEdgesTest {
         due.is("the last of 96", Due.tell(one(), times("e01;", 23) + "e01:"), -1095);
     }
 
+    /** "a letter": each of the 256 that can come, as a statement's first letter, its digit and its end. */
+    static void eachLetterOfAll() {
+        for (int letter = 0; letter <= 255; letter++) {
+            char c = (char) letter;
+            boolean digit = letter >= 48 && letter <= 57;
+            due.is("first letter " + letter, Due.tell(one(), c + "0;"), c == 'l' ? 1 : "hwgoe".indexOf(c) < 0 ? -1000 : -1002);
+            due.is("digit " + letter, Due.tell(one(), "l" + c + ";"), c == '0' ? 1 : digit ? -2000 : -1001);
+            due.is("end " + letter, Due.tell(one(), "l0" + c), c == ';' ? 1 : -1002);
+        }
+    }
+
     /** "FAULT: kind 1 ..; else kind 2": a later fault of kind 1 comes before an earlier one of kind 2. */
     static void kind1BeforeKind2() {
         due.is("both", Due.tell(one(), "l9;x"), -1003);
