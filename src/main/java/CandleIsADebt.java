@@ -963,34 +963,37 @@ public final class CandleIsADebt {
         /** Tells the world what the letters say: how many statements, or the fault. */
         int tell(World world) {
             int misspelt = firstMisspelt();
-            if (misspelt >= 0) return -1000 - misspelt;
+            if (misspelt != NONE) return -1000 - misspelt;
             int statements = 0;
-            for (int place = 0; place < length; place += digitsBehind(signs[place]) + 2) {
-                if (!tellStatement(world, place)) return -2000 - place;
+            int start = 0;
+            for (int place = 0; place < length; place++) {
+                if (signs[place] != ';') continue;
+                if (!tellStatement(world, start)) return -2000 - start;
                 statements++;
+                start = place + 1;
             }
             return statements;
         }
 
-        /** The place of the first letter with which no village can go on, or -1. */
+        /** The place of the first letter with which no village can go on (the end, if something lacks), or NONE. */
         private int firstMisspelt() {
-            if (length == 0) return 0;
-            for (int place = 0; place < length; place += digitsBehind(signs[place]) + 2) {
-                int wrong = misspeltFrom(place);
-                if (wrong >= 0) return wrong;
+            boolean begun = false;
+            int lacking = 0;
+            for (int place = 0; place < length; place++) {
+                int sign = signs[place];
+                if (!begun) {
+                    lacking = digitsBehind(sign);
+                    if (lacking == 0) return place;
+                    begun = true;
+                } else if (lacking > 0) {
+                    if (sign < '0' || sign > '9') return place;
+                    lacking--;
+                } else {
+                    if (sign != ';') return place;
+                    begun = false;
+                }
             }
-            return -1;
-        }
-
-        /** The place of the first letter with which the statement from a place cannot go on, or -1. */
-        private int misspeltFrom(int start) {
-            int digits = digitsBehind(signs[start]);
-            if (digits == 0) return start;
-            int end = start + digits + 1;
-            for (int place = start + 1; place < end; place++) {
-                if (place >= length || signs[place] < '0' || signs[place] > '9') return place;
-            }
-            return end < length && signs[end] == ';' ? -1 : end;
+            return begun || length == 0 ? length : NONE;
         }
 
         /** How many digits stand behind the letter that a statement begins with; 0: none begins so. */
@@ -1044,11 +1047,14 @@ public final class CandleIsADebt {
             more = 0;
             length = 0;
             if (from == to) return;
-            for (more = 0; more < world.houseCount; more++) {
-                length = shortestAt(more, world.houseCount, from, to);
+            int houses = world.houseCount;
+            for (int size = 0; size < houses; size++) {
+                more = size;
+                length = shortestAt(size, houses, from, to);
                 if (length != NONE) return;
             }
             // A way that may cost everything is the straight one.
+            more = houses;
             length = steps(from, to);
         }
 
